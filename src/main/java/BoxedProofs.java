@@ -146,7 +146,7 @@ public final class BoxedProofs {
             return BAD_VALUE;
         }
         now.formulas.evaluate(valuation / BLOCK_SIZE, truths);
-        return truths.get(formula) >>> valuation % BLOCK_SIZE & 1;
+        return (truths.get(formula) >>> (valuation % BLOCK_SIZE)) & 1;
     }
 
     // ---- the proof
@@ -621,23 +621,22 @@ public final class BoxedProofs {
             int at = formula;
             int rest = index;
             for (int steps = 0; steps < MAX_FORMULAS; steps++) {
-                int kind = kinds.get(at);
                 if (rest == 0) {
                     return firstCode(at);
                 }
                 int leftLength = lengths.get(lefts.get(at));
-                if (kind == NEGATION || rest <= leftLength) {
+                if (rest == leftLength + 1) {
+                    return Signs.ofKind(kinds.get(at));
+                }
+                if (rest <= leftLength) {
                     rest -= 1;
                     at = lefts.get(at);
-                    continue;
-                }
-                if (rest == leftLength + 1) {
-                    return Signs.ofKind(kind);
-                }
-                rest -= leftLength + 2;
-                at = rights.get(at);
-                if (rest == lengths.get(at)) {
-                    return ')';
+                } else {
+                    rest -= leftLength + 2;
+                    at = rights.get(at);
+                    if (rest == lengths.get(at)) {
+                        return ')';
+                    }
                 }
             }
             return NO_SUCH;
@@ -696,7 +695,7 @@ public final class BoxedProofs {
                 case 4:
                     return 0xFFFF0000;
                 default:
-                    return (block >> atom - 5 & 1) == 0 ? 0 : -1;
+                    return ((block >> (atom - 5)) & 1) == 0 ? 0 : -1;
             }
         }
     }
@@ -1006,7 +1005,7 @@ public final class BoxedProofs {
 
         /** The new number of a line or box: as many as are left ahead of it. */
         private static int renumbered(int old, long left) {
-            return old < 0 ? NONE : Long.bitCount(left & bit(old) - 1);
+            return old < 0 ? NONE : Long.bitCount(left & (bit(old) - 1));
         }
 
         private void moveLine(int old, int line, long keptLines, long keptBoxes) {
@@ -1138,7 +1137,7 @@ public final class BoxedProofs {
             if (opened == 0) {
                 return false;
             }
-            if ((signed & 1 << opened) != 0) {
+            if ((signed & (1 << opened)) != 0) {
                 opened--;
                 return code == ')';
             }

@@ -14,6 +14,7 @@ public final class LinesTest {
         needs();
         needsOfBoxes();
         needsOfAllLines();
+        needsInFiveBoxes();
         bypass();
         detours();
         Due.end("LinesTest");
@@ -289,6 +290,21 @@ public final class LinesTest {
         Due.is("needs(31)", x.needs(31), (1L << 32) - 1);
     }
 
+    private static void needsInFiveBoxes() {
+        BoxedProofs x = new BoxedProofs();
+        x.atom(0);
+        for (int i = 0; i < 5; i++) {
+            x.premise(0);
+        }
+        for (int i = 0; i < 5; i++) {
+            x.open(0);
+            x.repeat(5);
+        }
+        Due.is("the innermost line", x.needs(14), 1L << 14 | 0x2AA0);
+        Due.is("the innermost assumption", x.needs(13), 0x2AA0);
+        Due.is("the assumption around it", x.needs(11), 0x0AA0);
+    }
+
     // Promise 27
     private static void bypass() {
         BoxedProofs x = new BoxedProofs();
@@ -324,7 +340,11 @@ public final class LinesTest {
         x.fromTwo(9, 13, 0);
         Due.is("of DETACH", x.bypass(14), -6);
         Due.is("of a premise", x.bypass(0), -6);
-        Due.is("bypass(15)", x.bypass(15), -1);
+        x.fromTwo(3, 2, 2);
+        Due.is("of JOIN from JOIN", x.bypass(15), -6);
+        x.toFormula(6, 2, x.pair(4, x.line(2, 0), 0));
+        Due.is("of WEAKEN from JOIN", x.bypass(16), -6);
+        Due.is("bypass(17)", x.bypass(17), -1);
         Due.is("bypass(-1)", x.bypass(-1), -1);
         Due.is("bypass(MAX)", x.bypass(MAX), -1);
         bypassKeepsTheFormula(x);

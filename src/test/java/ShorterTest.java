@@ -11,6 +11,8 @@ public final class ShorterTest {
         trimLines();
         trimBoxes();
         trimNestedBoxes();
+        trimFirstBox();
+        trimNumbersBoxesAnew();
         trimDropsPremises();
         trimIsUndoable();
         shortenAndTrim();
@@ -264,6 +266,45 @@ public final class ShorterTest {
         Due.is("line(4, 4)", x.line(4, 4), 1);
         Due.is("line(3, 4)", x.line(3, 4), 0);
         Due.is("line(2, 3)", x.line(2, 3), 2);
+    }
+
+    private static void trimFirstBox() {
+        BoxedProofs x = new BoxedProofs();
+        x.atom(0);
+        x.premise(0);
+        x.open(0);
+        x.close();
+        x.fromBox(8, 0);
+        Due.is("trim(2)", x.trim(2), 1);
+        Due.is("box(0, 0)", x.box(0, 0), 0);
+        Due.is("box(0, 1)", x.box(0, 1), 0);
+        dueReferences(x, 1, 0);
+        Due.is("needs(1)", x.needs(1), 3);
+    }
+
+    // The new number of a box is not that of a line.
+    private static void trimNumbersBoxesAnew() {
+        BoxedProofs x = new BoxedProofs();
+        x.atom(0);
+        x.falsum();
+        x.premise(1);
+        x.open(0);
+        x.close();
+        x.open(0);
+        x.repeat(0);
+        x.close();
+        x.premise(0);
+        x.fromBox(10, 1);
+        x.fromBox(8, 1);
+        x.fromTwo(3, 5, 6);
+        Due.is("trim(7)", x.trim(7), 2);
+        dueReferences(x, 2, 0);
+        dueReferences(x, 3, 0);
+        dueReferences(x, 4, 0);
+        dueReferences(x, 5, 3, 4);
+        Due.is("boxes()", x.boxes(), 1);
+        Due.is("box(0, 0)", x.box(0, 0), 1);
+        Due.is("box(0, 1)", x.box(0, 1), 2);
     }
 
     private static void trimDropsPremises() {

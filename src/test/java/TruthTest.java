@@ -6,6 +6,7 @@ public final class TruthTest {
         counterexample();
         counterexampleWithPremises();
         counterexampleWithBoxes();
+        fiveBoxes();
         lowestOfAll();
         Due.end("TruthTest");
     }
@@ -120,6 +121,20 @@ public final class TruthTest {
         Due.is("the outer assumption", x.counterexample(b), 1);
         x.open(x.not(a));
         Due.is("against the premise", x.counterexample(f), -6);
+    }
+
+    private static void fiveBoxes() {
+        BoxedProofs x = new BoxedProofs();
+        int f = x.falsum();
+        for (int i = 0; i < 5; i++) {
+            x.open(x.atom(7 - i));
+        }
+        Due.is("in five boxes", x.counterexample(f), 248);
+        for (int i = 0; i < 5; i++) {
+            Due.is("an assumption", x.counterexample(x.atom(7 - i)), -6);
+            Due.is("a line of five boxes", x.repeat(i), 5 + i);
+            Due.is("failure", x.failure(5 + i), -6);
+        }
     }
 
     // The lowest valuation among several, in every block of valuations

@@ -9,6 +9,7 @@ public final class UndoTest {
         notUndoable();
         errorsAreNotRecorded();
         undoOfTheWholeState();
+        undoOfTrimmedBoxes();
         save();
         restore();
         restoreIsUndoable();
@@ -205,12 +206,53 @@ public final class UndoTest {
         x.undo();
         x.undo();
         x.undo();
-        int[] after = look(x);
-        Due.is("size", after.length, before.length);
-        for (int i = 0; i < before.length; i++) {
-            Due.is("number " + i + " of the state", after[i], before[i]);
-        }
+        dueLook(x, before);
         Due.is("close() goes on as before", x.close(), 2);
+    }
+
+    // A trim that numbers boxes, their parents and all references anew
+    private static void undoOfTrimmedBoxes() {
+        BoxedProofs x = new BoxedProofs();
+        x.atom(0);
+        x.premise(x.pair(4, 0, 0));
+        x.premise(1);
+        x.repeat(0);
+        x.open(0);
+        x.close();
+        x.open(0);
+        x.close();
+        x.open(0);
+        x.open(0);
+        x.close();
+        x.open(0);
+        x.close();
+        x.cases(2, 3, 4);
+        x.close();
+        x.cases(2, 2, 1);
+        x.save();
+        int[] before = look(x);
+        Due.is("reference(8, 2)", x.reference(8, 2), 4);
+        Due.is("box(4, 2)", x.box(4, 2), 2);
+        Due.is("reference(9, 2)", x.reference(9, 2), 1);
+        Due.is("trim(9)", x.trim(9), 2);
+        Due.is("reference(6, 2)", x.reference(6, 2), 3);
+        Due.is("box(3, 2)", x.box(3, 2), 1);
+        Due.is("reference(7, 2)", x.reference(7, 2), 0);
+        int[] trimmed = look(x);
+        x.undo();
+        dueLook(x, before);
+        x.trim(9);
+        x.restore();
+        dueLook(x, before);
+        x.undo();
+        dueLook(x, trimmed);
+    }
+
+    private static void dueLook(BoxedProofs x, int[] due) {
+        int[] seen = look(x);
+        for (int i = 0; i < due.length; i++) {
+            Due.is("number " + i + " of the state", seen[i], due[i]);
+        }
     }
 
     private static int[] look(BoxedProofs x) {
@@ -276,10 +318,7 @@ public final class UndoTest {
         x.atom(3);
         x.premise(1);
         Due.is("restore()", x.restore(), 3);
-        int[] after = look(x);
-        for (int i = 0; i < before.length; i++) {
-            Due.is("number " + i + " of the state", after[i], before[i]);
-        }
+        dueLook(x, before);
         x.atom(4);
         x.close();
         x.repeat(0);
