@@ -45,7 +45,8 @@ final class Due {
     /** The text of a formula, character by character. */
     static String text(BoxedProofs x, int formula) {
         StringBuilder text = new StringBuilder();
-        for (int i = 0; i < x.length(formula); i++) {
+        int length = x.length(formula);
+        for (int i = 0; i < length; i++) {
             text.append((char) x.character(formula, i));
         }
         return text.toString();
@@ -53,25 +54,15 @@ final class Due {
 
     /** Makes formulas until there are as many as asked for: negations of the latest one. */
     static void fillFormulas(BoxedProofs x, int count) {
-        while (x.formulas() < count) {
-            int before = x.formulas();
-            int made = before == 0 ? x.falsum() : x.not(before - 1);
-            is("filling formulas", made, before);
-            if (made != before) {
-                return;
-            }
+        for (int next = x.formulas(); next < count; next++) {
+            is("filling formulas", next == 0 ? x.falsum() : x.not(next - 1), next);
         }
     }
 
     /** Repeats a line until the proof has as many lines as asked for. */
     static void fillLines(BoxedProofs x, int line, int count) {
-        while (x.lines() < count) {
-            int before = x.lines();
-            int made = x.repeat(line);
-            is("filling lines", made, before);
-            if (made != before) {
-                return;
-            }
+        for (int next = x.lines(); next < count; next++) {
+            is("filling lines", x.repeat(line), next);
         }
     }
 }

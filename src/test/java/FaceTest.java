@@ -45,6 +45,14 @@ public final class FaceTest {
         Due.end("FaceTest");
     }
 
+    // Terms: "The constants: `NO_SUCH = -1`: There is no such formula, atom, line, box or
+    // reference."
+    // Terms: "`BAD_VALUE = -2`: Another argument is out of its range."
+    // Terms: "`NOT_POSSIBLE = -3`: The call is not possible in the current state, or the rule does
+    // not apply."
+    // Terms: "`LIMIT = -4`: A limit would be exceeded."
+    // Terms: "`BAD_TEXT = -5`: The buffer does not contain a formula."
+    // Terms: "`NONE = -6`: There is no such result."
     private static void constants() throws Exception {
         Due.is("NO_SUCH", BoxedProofs.NO_SUCH, -1);
         Due.is("BAD_VALUE", BoxedProofs.BAD_VALUE, -2);
@@ -63,6 +71,7 @@ public final class FaceTest {
         Due.isTrue("constants " + names, sorted(names).equals(sorted(Arrays.asList(CONSTANTS))));
     }
 
+    // Terms: "All numbers are integers."
     private static void methods(Class<?> face) {
         List<String> shown = new ArrayList<>();
         List<String> publicNames = new ArrayList<>();

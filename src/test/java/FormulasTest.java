@@ -296,7 +296,7 @@ public final class FormulasTest {
             f = x.not(f);
         }
         Due.is("length", x.length(f), 1000000);
-        Due.isTrue("its last character", x.character(f, 999999) == ')' || x.character(f, 999999) == 'a');
+        Due.is("its last character", x.character(f, 999999), ')');
         Due.is("character(.., 1000000)", x.character(f, 1000000), -1);
         int g = x.not(f);
         Due.is("length of one more", x.length(g), 1000000);
@@ -315,7 +315,9 @@ public final class FormulasTest {
         int and = x.pair(3, a, h);
         int or = x.pair(4, a, h);
         int to = x.pair(5, a, h);
-        int[][] due = {{0, 0, 1, 0, 0, 1}, {1, 0, 0, 0, 1, 0}, {128, 0, 1, 0, 1, 1}, {129, 0, 0, 1, 1, 1}};
+        int[][] due = {
+            {0, 0, 1, 0, 0, 1}, {1, 0, 0, 0, 1, 0}, {128, 0, 1, 0, 1, 1}, {129, 0, 0, 1, 1, 1}
+        };
         for (int[] row : due) {
             Due.is("falsum in " + row[0], x.isTrue(f, row[0]), row[1]);
             Due.is("negation in " + row[0], x.isTrue(n, row[0]), row[2]);

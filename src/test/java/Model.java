@@ -207,7 +207,8 @@ final class Model {
         return now.formulas.get(now.lines.get(line).formula);
     }
 
-    private int write(int rule, List<Integer> formula, List<Integer> lineRefs, List<Integer> boxRefs) {
+    private int write(int rule, List<Integer> formula, List<Integer> lineRefs,
+            List<Integer> boxRefs) {
         List<List<Integer>> formulas = now.formulas.contains(formula)
                 ? now.formulas : with(now.formulas, formula);
         if (now.lines.size() == 48 || formulas.size() > 60) {
@@ -534,8 +535,8 @@ final class Model {
         int changed = 0;
         for (int line = 0; line < lines.size(); line++) {
             for (int i = 0; i < lines.get(line).lineRefs.size(); i++) {
-                boolean same = lines.get(line).lineRefs.get(i).equals(now.lines.get(line).lineRefs.get(i));
-                changed += same ? 0 : 1;
+                int before = now.lines.get(line).lineRefs.get(i);
+                changed += lines.get(line).lineRefs.get(i) == before ? 0 : 1;
             }
         }
         become(new State(now.formulas, lines, now.boxes));

@@ -1,25 +1,35 @@
 /**
- * Long runs of calls, the same ones each time, compared with the model. They go on behind the
- * 512th call: the document leaves those answers free, but here they stay as due.
+ * Long runs of calls, the same ones each time, compared with the model. An object is used for at
+ * most 512 calls: so each run is made several times, and at its end looks at another slice of all
+ * that can be asked.
  */
 public final class ModelTest {
-    private static final int RUNS = 200;
-    private static final int STEPS = 512;
+    private static final int RUNS = 400;
+    private static final int SLICES = 8;
+    private static final int CALLS = 512;
     private static final int METHODS = 37;
 
     private static long seed = 1;
     private static final int[] GOOD = new int[METHODS + 1];
 
-    private BoxedProofs x = new BoxedProofs();
-    private Model m = new Model();
-    private int run;
+    private final BoxedProofs x = new BoxedProofs();
+    private final Model m = new Model();
+    private final int run;
+    private final int slice;
+    private int calls = 0;
+    private int questions = 0;
+
+    private ModelTest(int run, int slice) {
+        this.run = run;
+        this.slice = slice;
+    }
 
     public static void main(String[] args) {
         for (int run = 0; run < RUNS; run++) {
-            ModelTest test = new ModelTest();
-            test.run = run;
-            seed = run * 7919L + 17;
-            test.go();
+            for (int slice = 0; slice < SLICES; slice++) {
+                seed = run * 7919L + 17;
+                new ModelTest(run, slice).go();
+            }
         }
         // A run that never gets anywhere would compare nothing.
         for (int method = 0; method <= METHODS; method++) {
@@ -35,6 +45,7 @@ public final class ModelTest {
     }
 
     private void due(int method, String call, long got, long want) {
+        calls++;
         if (want >= 0) {
             GOOD[method]++;
         }
@@ -75,15 +86,16 @@ public final class ModelTest {
 
     private void go() {
         start();
-        for (int i = 0; i < STEPS; i++) {
+        int enough = 60 + run % 8 * 50;
+        while (calls < enough) {
             int way = pick(100);
-            if (way < 40) {
+            if (way < 55) {
                 write();
-            } else if (way < 62) {
+            } else if (way < 58) {
                 look();
-            } else if (way < 74) {
+            } else if (way < 73) {
                 formula();
-            } else if (way < 84) {
+            } else if (way < 91) {
                 direct();
             } else if (way < 94) {
                 text();
@@ -91,6 +103,10 @@ public final class ModelTest {
                 change();
             }
         }
+        if (run % 3 != 0) {
+            change();
+        }
+        compareSlice();
     }
 
     /** Some runs begin with all formulas but a few, so that the limit is met. */
@@ -199,7 +215,8 @@ public final class ModelTest {
                 due(9, "part of a repeat", x.fromOne(side, line + 2), m.fromOne(side, line + 2));
             }
             case 5 -> due(6, "close", x.close(), m.close());
-            default -> due(11, "discharge", x.fromBox(8, m.boxes() - 1), m.fromBox(8, m.boxes() - 1));
+            default -> due(11, "discharge", x.fromBox(8, m.boxes() - 1),
+                    m.fromBox(8, m.boxes() - 1));
         }
     }
 
@@ -270,7 +287,6 @@ public final class ModelTest {
                 }
             }
         }
-        compareAll();
     }
 
     private void look() {
@@ -283,8 +299,10 @@ public final class ModelTest {
         due(13, "formulas()", x.formulas(), m.formulas());
         due(14, "part(" + f + ", " + part + ")", x.part(f, part), m.part(f, part));
         due(15, "length(" + f + ")", x.length(f), m.length(f));
-        due(16, "character(" + f + ", " + index + ")", x.character(f, index), m.character(f, index));
-        due(17, "isTrue(" + f + ", " + valuation + ")", x.isTrue(f, valuation), m.isTrue(f, valuation));
+        due(16, "character(" + f + ", " + index + ")", x.character(f, index),
+                m.character(f, index));
+        due(17, "isTrue(" + f + ", " + valuation + ")", x.isTrue(f, valuation),
+                m.isTrue(f, valuation));
         due(18, "lines()", x.lines(), m.lines());
         due(19, "line(" + a + ", " + part + ")", x.line(a, part), m.line(a, part));
         due(20, "reference(" + a + ", " + part + ")", x.reference(a, part), m.reference(a, part));
@@ -300,28 +318,69 @@ public final class ModelTest {
         due(28, "counterexample(" + f + ")", x.counterexample(f), m.counterexample(f));
     }
 
-    private void compareAll() {
-        for (int f = 0; f <= m.formulas(); f++) {
-            for (int part = 0; part < 3; part++) {
-                due(14, "part(" + f + ", " + part + ")", x.part(f, part), m.part(f, part));
-            }
-        }
-        for (int line = 0; line <= m.lines(); line++) {
-            for (int part = 0; part < 6; part++) {
-                due(19, "line(" + line + ", " + part + ")", x.line(line, part), m.line(line, part));
-            }
-            for (int i = 0; i < 4; i++) {
-                due(20, "reference(" + line + ", " + i + ")", x.reference(line, i), m.reference(line, i));
-            }
-            due(24, "needs(" + line + ")", x.needs(line), m.needs(line));
-            due(25, "bypass(" + line + ")", x.bypass(line), m.bypass(line));
-        }
+    /** Whether the next question is one of this slice. */
+    private boolean isAsked() {
+        return questions++ % SLICES == slice && calls < CALLS;
+    }
+
+    private void compareSlice() {
+        compareFormulas();
+        compareLines();
         for (int box = 0; box <= m.boxes(); box++) {
             for (int part = 0; part < 4; part++) {
-                due(22, "box(" + box + ", " + part + ")", x.box(box, part), m.box(box, part));
+                if (isAsked()) {
+                    due(22, "box(" + box + ", " + part + ")", x.box(box, part), m.box(box, part));
+                }
             }
         }
-        due(23, "depth()", x.depth(), m.depth());
-        due(26, "detours()", x.detours(), m.detours());
+        if (isAsked()) {
+            due(23, "depth()", x.depth(), m.depth());
+        }
+        if (isAsked()) {
+            due(26, "detours()", x.detours(), m.detours());
+        }
+    }
+
+    private void compareFormulas() {
+        for (int f = 0; f <= m.formulas(); f++) {
+            for (int part = 0; part < 3; part++) {
+                if (isAsked()) {
+                    due(14, "part(" + f + ", " + part + ")", x.part(f, part), m.part(f, part));
+                }
+            }
+            if (isAsked()) {
+                due(15, "length(" + f + ")", x.length(f), m.length(f));
+            }
+            if (isAsked()) {
+                int at = m.length(f) / 2;
+                due(16, "character(" + f + ", " + at + ")", x.character(f, at), m.character(f, at));
+            }
+            if (isAsked()) {
+                due(28, "counterexample(" + f + ")", x.counterexample(f), m.counterexample(f));
+            }
+        }
+    }
+
+    private void compareLines() {
+        for (int line = 0; line <= m.lines(); line++) {
+            for (int part = 0; part < 6; part++) {
+                if (isAsked()) {
+                    due(19, "line(" + line + ", " + part + ")", x.line(line, part),
+                            m.line(line, part));
+                }
+            }
+            for (int i = 0; i < 4; i++) {
+                if (isAsked()) {
+                    due(20, "reference(" + line + ", " + i + ")", x.reference(line, i),
+                            m.reference(line, i));
+                }
+            }
+            if (isAsked()) {
+                due(24, "needs(" + line + ")", x.needs(line), m.needs(line));
+            }
+            if (isAsked()) {
+                due(25, "bypass(" + line + ")", x.bypass(line), m.bypass(line));
+            }
+        }
     }
 }

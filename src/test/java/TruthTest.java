@@ -139,29 +139,21 @@ public final class TruthTest {
 
     // The lowest valuation among several, in every block of valuations
     private static void lowestOfAll() {
-        BoxedProofs x = new BoxedProofs();
-        int[] atoms = new int[8];
-        int[] denials = new int[8];
-        for (int i = 0; i < 8; i++) {
-            atoms[i] = x.atom(i);
-            denials[i] = x.not(atoms[i]);
-        }
-        int f = x.falsum();
-        x.save();
         for (int v = 0; v < 256; v++) {
+            BoxedProofs x = new BoxedProofs();
+            int f = x.falsum();
             for (int i = 0; i < 8; i++) {
                 if ((v >> i & 1) == 1) {
-                    x.premise(atoms[i]);
+                    x.premise(x.atom(i));
                 }
             }
             Due.is("the lowest above " + v, x.counterexample(f), v);
             for (int i = 0; i < 8; i++) {
                 if ((v >> i & 1) == 0) {
-                    x.premise(denials[i]);
+                    x.premise(x.not(x.atom(i)));
                 }
             }
             Due.is("the only one " + v, x.counterexample(f), v);
-            x.restore();
         }
     }
 }

@@ -192,26 +192,35 @@ public final class UndoTest {
         Due.is("undo() after restore() of nothing", y.undo(), -3);
     }
 
-    private static void undoOfTheWholeState() {
+    /** An object in a box, with a line that no other one has. */
+    private static BoxedProofs inABox() {
         BoxedProofs x = ready();
         x.open(5);
         x.fromTwo(11, 11, 0);
-        int[] before = look(x);
+        return x;
+    }
+
+    private static void undoOfTheWholeState() {
+        Look.sameButRecorded("undo() of four calls", () -> {
+            BoxedProofs x = inABox();
+            x.close();
+            x.fromBox(10, 2);
+            x.trim(13);
+            Due.is("lines()", x.lines(), 4);
+            x.shorten();
+            for (int left = 4; left > 0; left--) {
+                x.undo();
+            }
+            return x;
+        }, UndoTest::inABox);
+        BoxedProofs x = inABox();
         x.close();
-        x.fromBox(10, 2);
-        x.trim(13);
-        Due.is("lines()", x.lines(), 4);
-        x.shorten();
         x.undo();
-        x.undo();
-        x.undo();
-        x.undo();
-        dueLook(x, before);
         Due.is("close() goes on as before", x.close(), 2);
     }
 
-    // A trim that numbers boxes, their parents and all references anew
-    private static void undoOfTrimmedBoxes() {
+    /** An object whose trim(9) numbers boxes, their parents and all references anew. */
+    private static BoxedProofs withFiveBoxes() {
         BoxedProofs x = new BoxedProofs();
         x.atom(0);
         x.premise(x.pair(4, 0, 0));
@@ -230,7 +239,17 @@ public final class UndoTest {
         x.close();
         x.cases(2, 2, 1);
         x.save();
-        int[] before = look(x);
+        return x;
+    }
+
+    private static BoxedProofs trimmed() {
+        BoxedProofs x = withFiveBoxes();
+        Due.is("trim(9)", x.trim(9), 2);
+        return x;
+    }
+
+    private static void undoOfTrimmedBoxes() {
+        BoxedProofs x = withFiveBoxes();
         Due.is("reference(8, 2)", x.reference(8, 2), 4);
         Due.is("box(4, 2)", x.box(4, 2), 2);
         Due.is("reference(9, 2)", x.reference(9, 2), 1);
@@ -238,45 +257,22 @@ public final class UndoTest {
         Due.is("reference(6, 2)", x.reference(6, 2), 3);
         Due.is("box(3, 2)", x.box(3, 2), 1);
         Due.is("reference(7, 2)", x.reference(7, 2), 0);
-        int[] trimmed = look(x);
-        x.undo();
-        dueLook(x, before);
-        x.trim(9);
-        x.restore();
-        dueLook(x, before);
-        x.undo();
-        dueLook(x, trimmed);
-    }
-
-    private static void dueLook(BoxedProofs x, int[] due) {
-        int[] seen = look(x);
-        for (int i = 0; i < due.length; i++) {
-            Due.is("number " + i + " of the state", seen[i], due[i]);
-        }
-    }
-
-    private static int[] look(BoxedProofs x) {
-        int[] seen = new int[800];
-        int at = 0;
-        seen[at++] = x.formulas();
-        seen[at++] = x.lines();
-        seen[at++] = x.boxes();
-        seen[at++] = x.depth();
-        for (int i = 0; i < 48; i++) {
-            for (int part = 0; part < 6; part++) {
-                seen[at++] = x.line(i, part);
-            }
-            for (int part = 0; part < 3; part++) {
-                seen[at++] = x.reference(i, part);
-                seen[at++] = x.part(i, part);
-            }
-        }
-        for (int i = 0; i < 12; i++) {
-            for (int part = 0; part < 4; part++) {
-                seen[at++] = x.box(i, part);
-            }
-        }
-        return seen;
+        Look.sameButRecorded("undo() of trim", () -> {
+            BoxedProofs y = trimmed();
+            y.undo();
+            return y;
+        }, UndoTest::withFiveBoxes);
+        Look.sameButRecorded("restore() after trim", () -> {
+            BoxedProofs y = trimmed();
+            y.restore();
+            return y;
+        }, UndoTest::withFiveBoxes);
+        Look.sameButRecorded("undo() of restore()", () -> {
+            BoxedProofs y = trimmed();
+            y.restore();
+            y.undo();
+            return y;
+        }, UndoTest::trimmed);
     }
 
     // Promise 38
@@ -302,26 +298,35 @@ public final class UndoTest {
         Due.is("formulas()", y.formulas(), 0);
     }
 
-    // Promise 39
-    private static void restore() {
+    /** A saved state in an open box. */
+    private static BoxedProofs savedInABox() {
         BoxedProofs x = new BoxedProofs();
-        Due.is("restore()", x.restore(), -3);
         x.atom(0);
         x.premise(0);
         x.open(0);
         x.repeat(0);
         x.save();
-        int[] before = look(x);
-        x.close();
-        x.fromBox(8, 0);
-        x.trim(0);
-        x.atom(3);
-        x.premise(1);
-        Due.is("restore()", x.restore(), 3);
-        dueLook(x, before);
+        return x;
+    }
+
+    // Promise 39
+    private static void restore() {
+        Due.is("restore()", new BoxedProofs().restore(), -3);
+        Look.sameButRecorded("restore()", () -> {
+            BoxedProofs x = savedInABox();
+            x.close();
+            x.fromBox(8, 0);
+            x.trim(0);
+            x.atom(3);
+            x.premise(1);
+            Due.is("restore()", x.restore(), 3);
+            return x;
+        }, UndoTest::savedInABox);
+        BoxedProofs x = savedInABox();
         x.atom(4);
         x.close();
         x.repeat(0);
+        Due.is("restore()", x.restore(), 3);
         Due.is("restore() again", x.restore(), 3);
         Due.is("formulas()", x.formulas(), 1);
         Due.is("depth()", x.depth(), 1);
