@@ -25,6 +25,14 @@ final class Due {
         }
     }
 
+    /** The references of a line, none behind them. */
+    static void references(BoxedProofs x, int line, int... due) {
+        for (int index = 0; index < 3; index++) {
+            is("reference(" + line + ", " + index + ")", x.reference(line, index),
+                    index < due.length ? due[index] : -1);
+        }
+    }
+
     /** Empties the buffer and puts a text into it. */
     static void type(BoxedProofs x, String text) {
         x.clearText();

@@ -217,7 +217,7 @@ public final class FormulasTest {
         x.atom(1);
         StringBuilder due = new StringBuilder("a");
         int f = 0;
-        for (int i = 0; i < 6; i++) {
+        for (int i = 0; i < 5; i++) {
             f = x.pair(3 + i % 3, f, 1);
             due.insert(0, '(').append("&|>".charAt(i % 3)).append("b)");
             f = x.pair(3 + i % 3, f, f);

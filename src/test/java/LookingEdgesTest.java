@@ -26,6 +26,8 @@ public final class LookingEdgesTest {
         bypassOfALine();
         bypassOfNoLine();
         bypassOfNoDetour();
+        bypassOfLinesFromJoin();
+        bypassOfLeftAndRightFromOtherRules();
         detoursCounted();
         failureOfPremises();
         failureInBoxes();
@@ -177,13 +179,6 @@ public final class LookingEdgesTest {
         }
     }
 
-    private static void dueReferences(BoxedProofs x, int line, int... due) {
-        for (int index = 0; index < 3; index++) {
-            Due.is("reference(" + line + ", " + index + ")", x.reference(line, index),
-                    index < due.length ? due[index] : -1);
-        }
-    }
-
     // Promise 22: "`line`: number of a line"
     // Promise 22: "`index`: 0 for the first line or box to which it refers, in the order of the
     // arguments, 1 for the second one, 2 for the third one"
@@ -194,19 +189,19 @@ public final class LookingEdgesTest {
         x.open(0);
         x.close();
         x.cases(3, 1, 2);
-        dueReferences(x, 12, 3, 1, 2);
+        Due.references(x, 12, 3, 1, 2);
         x.fromTwo(9, 4, 0);
-        dueReferences(x, 13, 4, 0);
+        Due.references(x, 13, 4, 0);
         x.fromTwo(3, 6, 1);
-        dueReferences(x, 14, 6, 1);
+        Due.references(x, 14, 6, 1);
         x.fromBox(8, 2);
-        dueReferences(x, 15, 2);
+        Due.references(x, 15, 2);
         x.fromBox(10, 0);
-        dueReferences(x, 16, 0);
+        Due.references(x, 16, 0);
         x.toFormula(12, 1, 6);
-        dueReferences(x, 17, 1);
+        Due.references(x, 17, 1);
         x.repeat(17);
-        dueReferences(x, 18, 17);
+        Due.references(x, 18, 17);
     }
 
     // Promise 22: "NO_SUCH if there is no such line,"
@@ -413,6 +408,48 @@ public final class LookingEdgesTest {
         int[] due = {-6, -6, -6, 13, -6, -6, -6, -6};
         for (int line = 11; line < 19; line++) {
             Due.is("bypass(" + line + ")", x.bypass(line), due[line - 11]);
+        }
+    }
+
+    // Promise 27: "NONE if it is not bypassed."
+    // Terms: "or by LEFT or RIGHT from a line that is written by JOIN"
+    private static void bypassOfLinesFromJoin() {
+        BoxedProofs x = Ready.rules();
+        x.fromTwo(3, 0, 1);
+        x.fromTwo(3, 11, 11);
+        x.toFormula(6, 11, x.pair(4, x.line(11, 0), 0));
+        x.premise(x.pair(5, x.line(11, 0), 0));
+        x.fromTwo(9, 14, 11);
+        for (int line = 11; line < 16; line++) {
+            Due.is("bypass(" + line + ")", x.bypass(line), -6);
+        }
+        Due.is("bypass of LEFT from JOIN of JOIN", x.bypass(x.fromOne(4, 12)), 11);
+        BoxedProofs y = Ready.inBoxes(0, 1);
+        y.fromTwo(3, 0, 0);
+        y.open(0);
+        y.close();
+        y.open(0);
+        y.close();
+        Due.is("bypass of DISCHARGE from box 1, line 1 being JOIN", y.bypass(y.fromBox(8, 1)), -6);
+    }
+
+    // Promise 27: "NONE if it is not bypassed."
+    // Terms: "or by LEFT or RIGHT from a line that is written by JOIN"
+    private static void bypassOfLeftAndRightFromOtherRules() {
+        BoxedProofs x = Ready.rules();
+        x.premise(x.pair(5, 0, 2));
+        x.fromTwo(9, 11, 0);
+        x.toFormula(12, 1, 2);
+        x.open(0);
+        x.repeat(2);
+        x.close();
+        x.cases(3, 2, 2);
+        for (int line : new int[] {12, 13, 16}) {
+            for (int rule = 4; rule <= 5; rule++) {
+                int made = x.fromOne(rule, line);
+                Due.isTrue("fromOne(" + rule + ", " + line + ")", made > 16);
+                Due.is("bypass(" + made + ")", x.bypass(made), -6);
+            }
         }
     }
 

@@ -261,6 +261,7 @@ public final class ModelTest {
         if (pick(6) == 0) {
             text = "((((((((((((".substring(pick(12)) + text;
         }
+        text = text.substring(0, Math.min(text.length(), 75));
         if (pick(4) != 0) {
             due(34, "clearText()", x.clearText(), m.clearText());
         }

@@ -30,10 +30,7 @@ public final class ProofTest {
     private static void dueLine(BoxedProofs x, int line, int formula, int rule, int... references) {
         Due.is("formula of line " + line, x.line(line, 0), formula);
         Due.is("rule of line " + line, x.line(line, 1), rule);
-        for (int i = 0; i < 3; i++) {
-            int due = i < references.length ? references[i] : -1;
-            Due.is("reference(" + line + ", " + i + ")", x.reference(line, i), due);
-        }
+        Due.references(x, line, references);
     }
 
     // Promise 11
@@ -474,24 +471,7 @@ public final class ProofTest {
 
     // Every method that writes a line: 48 lines at most
     private static void fullProof() {
-        BoxedProofs x = new BoxedProofs();
-        x.atom(0);
-        x.falsum();
-        x.pair(3, 0, 0);
-        x.pair(4, 0, 0);
-        x.pair(5, 0, 0);
-        x.not(0);
-        x.not(5);
-        for (int f = 0; f < 7; f++) {
-            x.premise(f);
-        }
-        x.open(0);
-        x.repeat(1);
-        x.close();
-        x.open(0);
-        x.repeat(0);
-        x.close();
-        Due.fillLines(x, 0, 47);
+        BoxedProofs x = Ready.rules(47);
         Due.is("the last line", x.fromTwo(3, 0, 0), 47);
         Due.is("premise", x.premise(0), -4);
         Due.is("open", x.open(0), -4);

@@ -17,13 +17,7 @@ final class Ready {
         x.append('b');
     }
 
-    /**
-     * The formulas 0 a, 1 #, 2 (a&a), 3 (a|a), 4 (a>a), 5 ~a and 6 ~~a; the lines 0 to 6 are
-     * premises with them. Box 0, the lines 7 and 8, leads from a to #; box 1, the lines 9 and 10,
-     * from a to a. So every rule applies somewhere, and no formula must be made for it.
-     */
-    static BoxedProofs rules() {
-        BoxedProofs x = new BoxedProofs();
+    private static void premises(BoxedProofs x) {
         x.atom(0);
         x.falsum();
         x.pair(3, 0, 0);
@@ -35,6 +29,16 @@ final class Ready {
         for (int formula = 0; formula < 7; formula++) {
             x.premise(formula);
         }
+    }
+
+    /**
+     * The formulas 0 a, 1 #, 2 (a&a), 3 (a|a), 4 (a>a), 5 ~a and 6 ~~a; the lines 0 to 6 are
+     * premises with them. Box 0, the lines 7 and 8, leads from a to #; box 1, the lines 9 and 10,
+     * from a to a. So every rule applies somewhere, and no formula must be made for it.
+     */
+    static BoxedProofs rules() {
+        BoxedProofs x = new BoxedProofs();
+        premises(x);
         x.open(0);
         x.repeat(1);
         x.close();
@@ -138,17 +142,7 @@ final class Ready {
      */
     static BoxedProofs rulesInBox(boolean closed) {
         BoxedProofs x = new BoxedProofs();
-        x.atom(0);
-        x.falsum();
-        x.pair(3, 0, 0);
-        x.pair(4, 0, 0);
-        x.pair(5, 0, 0);
-        x.not(0);
-        saveAndType(x);
-        x.not(5);
-        for (int formula = 0; formula < 7; formula++) {
-            x.premise(formula);
-        }
+        premises(x);
         x.open(1);
         for (int formula = 0; formula < 7; formula++) {
             x.toFormula(12, 7, formula);

@@ -80,10 +80,7 @@ public final class RulesTest {
         Due.is(call + ": lines()", x.lines(), LINES + 1);
         Due.is(call + ": its formula", x.line(LINES, 0), formula);
         Due.is(call + ": its rule", x.line(LINES, 1), rule);
-        for (int index = 0; index < 3; index++) {
-            int due = index < refs.length ? refs[index] : -1;
-            Due.is(call + ": its reference " + index, x.reference(LINES, index), due);
-        }
+        Due.references(x, LINES, refs);
         Due.is(call + ": formulas()", x.formulas(), formula < FORMULAS ? FORMULAS : FORMULAS + 1);
     }
 

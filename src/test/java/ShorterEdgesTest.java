@@ -21,19 +21,15 @@ public final class ShorterEdgesTest {
         trimNumbersLinesAnew();
         trimDropsBoxes();
         trimNumbersBoxesAnew();
+        trimNumbersParentsAnew();
+        trimNumbersEachReferenceAnew();
+        trimToABoxThatIsTheFirstLine();
         trimShortensBoxes();
         trimKeepsBoxesAround();
         trimKeepsFormulas();
         trimOfAFullProof();
         trimUndone();
         Due.end("ShorterEdgesTest");
-    }
-
-    private static void dueReferences(BoxedProofs x, int line, int... due) {
-        for (int index = 0; index < 3; index++) {
-            Due.is("reference(" + line + ", " + index + ")", x.reference(line, index),
-                    index < due.length ? due[index] : -1);
-        }
     }
 
     // Promise 31: "Returns the number of references that become different."
@@ -55,7 +51,7 @@ public final class ShorterEdgesTest {
         }
         Due.is("shorten()", x.shorten(), 4);
         for (int line = 1; line < 6; line++) {
-            dueReferences(x, line, 0);
+            Due.references(x, line, 0);
         }
         Due.is("shorten() again", x.shorten(), 0);
     }
@@ -65,18 +61,18 @@ public final class ShorterEdgesTest {
         BoxedProofs x = Ready.inBoxes(0, 2);
         x.fromTwo(3, 1, 1);
         Due.is("both references", x.shorten(), 2);
-        dueReferences(x, 2, 0, 0);
+        Due.references(x, 2, 0, 0);
         x.fromTwo(3, 0, 1);
         Due.is("the second one", x.shorten(), 1);
-        dueReferences(x, 3, 0, 0);
+        Due.references(x, 3, 0, 0);
         x.fromTwo(3, 1, 0);
         Due.is("the first one", x.shorten(), 1);
-        dueReferences(x, 4, 0, 0);
+        Due.references(x, 4, 0, 0);
         x.repeat(1);
         x.repeat(5);
         Due.is("one reference each, however far it goes", x.shorten(), 2);
-        dueReferences(x, 5, 0);
-        dueReferences(x, 6, 0);
+        Due.references(x, 5, 0);
+        Due.references(x, 6, 0);
     }
 
     // Promise 31: "Bypasses detours:"
@@ -87,13 +83,13 @@ public final class ShorterEdgesTest {
         x.fromOne(5, 11);
         x.fromTwo(11, 12, 13);
         Due.is("shorten()", x.shorten(), 2);
-        dueReferences(x, 12, 11);
-        dueReferences(x, 13, 11);
-        dueReferences(x, 14, 6, 5);
+        Due.references(x, 12, 11);
+        Due.references(x, 13, 11);
+        Due.references(x, 14, 6, 5);
         x.fromOne(4, 2);
         x.repeat(15);
         Due.is("LEFT from a premise is no detour", x.shorten(), 0);
-        dueReferences(x, 16, 15);
+        Due.references(x, 16, 15);
     }
 
     // Promise 31: "and this is repeated until no line refers to a line that is bypassed."
@@ -106,10 +102,10 @@ public final class ShorterEdgesTest {
         x.repeat(14);
         Due.is("LEFT from REPEAT is no detour yet", x.bypass(13), -6);
         Due.is("shorten()", x.shorten(), 3);
-        dueReferences(x, 12, 11);
-        dueReferences(x, 13, 11);
-        dueReferences(x, 14, 6);
-        dueReferences(x, 15, 6);
+        Due.references(x, 12, 11);
+        Due.references(x, 13, 11);
+        Due.references(x, 14, 6);
+        Due.references(x, 15, 6);
         Due.is("LEFT from JOIN is a detour", x.bypass(13), 6);
         for (int line = 0; line < x.lines(); line++) {
             for (int index = 0; index < 2; index++) {
@@ -137,16 +133,16 @@ public final class ShorterEdgesTest {
         x.toFormula(12, 12, 6);
         x.fromOne(13, 17);
         Due.is("shorten()", x.shorten(), 13);
-        dueReferences(x, 18, 0);
-        dueReferences(x, 19, 1, 2);
-        dueReferences(x, 20, 2);
-        dueReferences(x, 21, 2);
-        dueReferences(x, 22, 0);
-        dueReferences(x, 23, 3, 0, 0);
-        dueReferences(x, 24, 4, 0);
-        dueReferences(x, 25, 5, 0);
-        dueReferences(x, 26, 1);
-        dueReferences(x, 27, 6);
+        Due.references(x, 18, 0);
+        Due.references(x, 19, 1, 2);
+        Due.references(x, 20, 2);
+        Due.references(x, 21, 2);
+        Due.references(x, 22, 0);
+        Due.references(x, 23, 3, 0, 0);
+        Due.references(x, 24, 4, 0);
+        Due.references(x, 25, 5, 0);
+        Due.references(x, 26, 1);
+        Due.references(x, 27, 6);
     }
 
     // Promise 31: "References to boxes stay."
@@ -162,8 +158,8 @@ public final class ShorterEdgesTest {
         Due.is("cases(5, 1, 0)", x.cases(5, 1, 0), 6);
         Due.is("line 1 is bypassed", x.bypass(1), 0);
         Due.is("box 1 is not", x.shorten(), 0);
-        dueReferences(x, 4, 1);
-        dueReferences(x, 6, 5, 1, 0);
+        Due.references(x, 4, 1);
+        Due.references(x, 6, 5, 1, 0);
     }
 
     // Promise 31: "References to boxes stay."
@@ -183,7 +179,7 @@ public final class ShorterEdgesTest {
         Due.is("lines()", x.lines(), 3);
         Due.is("detours()", x.detours(), 2);
         Due.is("repeat(2)", x.repeat(2), 3);
-        dueReferences(x, 3, 2);
+        Due.references(x, 3, 2);
     }
 
     // Promise 31: "Returns the number of references that become different."
@@ -193,8 +189,8 @@ public final class ShorterEdgesTest {
             x.repeat(line - 1);
         }
         Due.is("shorten()", x.shorten(), 46);
-        dueReferences(x, 1, 0);
-        dueReferences(x, 47, 0);
+        Due.references(x, 1, 0);
+        Due.references(x, 47, 0);
         BoxedProofs y = Ready.inBoxes(0, 2);
         for (int line = 2; line < 48; line++) {
             y.fromTwo(3, 1, 1);
@@ -261,7 +257,7 @@ public final class ShorterEdgesTest {
         Due.is("boxes()", x.boxes(), 1);
         Due.is("box(0, 0)", x.box(0, 0), 1);
         Due.is("box(0, 1)", x.box(0, 1), 2);
-        dueReferences(x, 3, 0);
+        Due.references(x, 3, 0);
     }
 
     // Promise 32: "Drops all lines that a line does not need,"
@@ -300,9 +296,9 @@ public final class ShorterEdgesTest {
             Due.is("line(" + line + ", 0)", x.line(line, 0), formulas[line]);
             Due.is("line(" + line + ", 1)", x.line(line, 1), rules[line]);
         }
-        dueReferences(x, 2);
-        dueReferences(x, 3, 2, 1);
-        dueReferences(x, 4, 0, 3);
+        Due.references(x, 2);
+        Due.references(x, 3, 2, 1);
+        Due.references(x, 4, 0, 3);
     }
 
     // Promise 32: "and all boxes whose assumption is dropped."
@@ -316,8 +312,8 @@ public final class ShorterEdgesTest {
         Due.is("box(0, 2)", x.box(0, 2), -6);
         Due.is("box(0, 3)", x.box(0, 3), 1);
         Due.is("box(1, 0)", x.box(1, 0), -1);
-        dueReferences(x, 2, 0);
-        dueReferences(x, 3, 0);
+        Due.references(x, 2, 0);
+        Due.references(x, 3, 0);
         Due.is("the next box", x.open(0), 4);
         Due.is("its number", x.line(4, 2), 1);
         Due.is("its end", x.box(1, 1), -6);
@@ -327,20 +323,108 @@ public final class ShorterEdgesTest {
     private static void trimNumbersBoxesAnew() {
         BoxedProofs x = Ready.inBoxes(0, 1);
         x.pair(4, 0, 0);
-        x.premise(1);
+        x.toFormula(6, 0, 1);
         for (int box = 0; box < 6; box++) {
             x.open(0);
             x.close();
         }
         Due.is("cases(1, 4, 2)", x.cases(1, 4, 2), 8);
-        Due.is("trim(8)", x.trim(8), 5);
-        dueReferences(x, 3, 0, 1, 0);
+        Due.is("trim(8)", x.trim(8), 4);
+        Due.references(x, 4, 1, 1, 0);
         Due.is("boxes()", x.boxes(), 2);
         for (int box = 0; box < 2; box++) {
-            Due.is("assumption of box " + box, x.box(box, 0), box + 1);
-            Due.is("end of box " + box, x.box(box, 1), box + 1);
-            Due.is("box of its line", x.line(box + 1, 2), box);
+            Due.is("assumption of box " + box, x.box(box, 0), box + 2);
+            Due.is("end of box " + box, x.box(box, 1), box + 2);
+            Due.is("box of its line", x.line(box + 2, 2), box);
         }
+    }
+
+    // Promise 32: "The other lines and boxes are numbered anew, in their order;"
+    private static void trimNumbersParentsAnew() {
+        BoxedProofs x = Ready.inBoxes(0, 1);
+        x.open(0);
+        x.close();
+        x.open(0);
+        x.open(0);
+        x.close();
+        x.open(0);
+        x.close();
+        x.fromBox(8, 3);
+        x.close();
+        x.fromBox(8, 1);
+        Due.is("trim(6)", x.trim(6), 3);
+        Due.is("boxes()", x.boxes(), 2);
+        Due.is("parent of the outer box", x.box(0, 2), -6);
+        Due.is("parent of the inner box", x.box(1, 2), 0);
+        Due.is("availability of the outer box", x.box(0, 3), 1);
+        Due.is("availability of the inner box", x.box(1, 3), 0);
+        int[] homes = {0, 1, 0, -6};
+        int[] nested = {1, 2, 1, 0};
+        for (int line = 0; line < 4; line++) {
+            Due.is("line(" + line + ", 2)", x.line(line, 2), homes[line]);
+            Due.is("line(" + line + ", 3)", x.line(line, 3), nested[line]);
+        }
+    }
+
+    // Promise 32: "The other lines and boxes are numbered anew, in their order;"
+    private static void trimNumbersEachReferenceAnew() {
+        BoxedProofs x = Ready.rules();
+        x.trim(0);
+        x.open(0);
+        x.close();
+        for (int formula = 0; formula < 7; formula++) {
+            x.premise(formula);
+        }
+        x.open(0);
+        x.repeat(3);
+        x.close();
+        x.open(0);
+        x.repeat(2);
+        x.close();
+        x.repeat(2);
+        x.fromTwo(3, 2, 3);
+        x.fromOne(4, 4);
+        x.fromOne(5, 4);
+        x.toFormula(6, 2, 3);
+        x.cases(5, 2, 2);
+        x.fromBox(8, 2);
+        x.fromTwo(9, 6, 2);
+        x.fromBox(10, 1);
+        x.fromTwo(11, 7, 2);
+        x.toFormula(12, 3, 6);
+        x.fromOne(13, 8);
+        int latest = 13;
+        for (int line = 14; line < 25; line++) {
+            latest = x.fromTwo(3, latest, line);
+        }
+        Due.is("the line that needs all from line 2 on", latest, 35);
+        Due.is("trim(35)", x.trim(35), 2);
+        int[][] due = {
+            {0}, {0, 1}, {2}, {2}, {0}, {3, 1, 1}, {1}, {4, 0}, {0}, {5, 0}, {1}, {6}
+        };
+        Due.references(x, 8, 1);
+        Due.references(x, 10, 0);
+        for (int i = 0; i < due.length; i++) {
+            Due.references(x, 11 + i, due[i]);
+        }
+        for (int line = 23; line < 34; line++) {
+            Due.references(x, line, line == 23 ? 11 : line - 1, line - 11);
+        }
+        Due.is("boxes()", x.boxes(), 2);
+        Due.is("box(0, 1)", x.box(0, 1), 8);
+        Due.is("box(1, 1)", x.box(1, 1), 10);
+    }
+
+    // Promise 32: "the last line of a box is the last one of its lines that is left."
+    private static void trimToABoxThatIsTheFirstLine() {
+        BoxedProofs x = Ready.inBoxes(0, 3);
+        x.open(0);
+        x.close();
+        x.fromBox(8, 0);
+        Due.is("trim(4)", x.trim(4), 3);
+        Due.is("box(0, 0)", x.box(0, 0), 0);
+        Due.is("box(0, 1)", x.box(0, 1), 0);
+        Due.is("needs(1)", x.needs(1), 3);
     }
 
     // Promise 32: "the last line of a box is the last one of its lines that is left."
@@ -391,7 +475,7 @@ public final class ShorterEdgesTest {
         Due.is("the box of the innermost line", x.line(5, 2), 4);
         for (int line = 6; line < 11; line++) {
             Due.is("the box of line " + line, x.line(line, 2), line == 10 ? -6 : 9 - line);
-            dueReferences(x, line, 10 - line);
+            Due.references(x, line, 10 - line);
         }
     }
 

@@ -19,13 +19,6 @@ public final class ShorterTest {
         Due.end("ShorterTest");
     }
 
-    private static void dueReferences(BoxedProofs x, int line, int... due) {
-        for (int i = 0; i < 3; i++) {
-            Due.is("reference(" + line + ", " + i + ")", x.reference(line, i),
-                    i < due.length ? due[i] : -1);
-        }
-    }
-
     // Promise 31
     private static void shortenNothing() {
         BoxedProofs x = new BoxedProofs();
@@ -35,10 +28,10 @@ public final class ShorterTest {
         x.premise(0);
         x.fromTwo(3, 0, 0);
         Due.is("shorten()", x.shorten(), 0);
-        dueReferences(x, 1, 0, 0);
+        Due.references(x, 1, 0, 0);
         x.repeat(1);
         Due.is("a detour that no line refers to", x.shorten(), 0);
-        dueReferences(x, 2, 1);
+        Due.references(x, 2, 1);
         Due.is("detours()", x.detours(), 1);
     }
 
@@ -54,12 +47,12 @@ public final class ShorterTest {
         x.fromTwo(3, 1, 4);
         x.fromTwo(3, 4, 1);
         Due.is("shorten()", x.shorten(), 6);
-        dueReferences(x, 2, 0);
-        dueReferences(x, 3, 0);
-        dueReferences(x, 4, 0);
-        dueReferences(x, 5, 0, 0);
-        dueReferences(x, 6, 1, 0);
-        dueReferences(x, 7, 0, 1);
+        Due.references(x, 2, 0);
+        Due.references(x, 3, 0);
+        Due.references(x, 4, 0);
+        Due.references(x, 5, 0, 0);
+        Due.references(x, 6, 1, 0);
+        Due.references(x, 7, 0, 1);
         Due.is("shorten() again", x.shorten(), 0);
         Due.is("lines()", x.lines(), 8);
     }
@@ -75,9 +68,9 @@ public final class ShorterTest {
         x.fromOne(5, 2);
         x.fromTwo(3, 4, 3);
         Due.is("shorten()", x.shorten(), 2);
-        dueReferences(x, 3, 2);
-        dueReferences(x, 4, 2);
-        dueReferences(x, 5, 1, 0);
+        Due.references(x, 3, 2);
+        Due.references(x, 4, 2);
+        Due.references(x, 5, 1, 0);
     }
 
     // LEFT from REPEAT from JOIN is bypassed only when it refers to the JOIN.
@@ -96,12 +89,12 @@ public final class ShorterTest {
         x.repeat(7);
         Due.is("bypass(5)", x.bypass(5), -6);
         Due.is("shorten()", x.shorten(), 4);
-        dueReferences(x, 3, 0, 1);
-        dueReferences(x, 4, 3);
-        dueReferences(x, 5, 3);
-        dueReferences(x, 6, 1, 0);
-        dueReferences(x, 7, 6);
-        dueReferences(x, 8, 1);
+        Due.references(x, 3, 0, 1);
+        Due.references(x, 4, 3);
+        Due.references(x, 5, 3);
+        Due.references(x, 6, 1, 0);
+        Due.references(x, 7, 6);
+        Due.references(x, 8, 1);
         Due.is("bypass(5)", x.bypass(5), 1);
     }
 
@@ -120,9 +113,9 @@ public final class ShorterTest {
         x.cases(1, 1, 0);
         x.fromBox(8, 1);
         Due.is("shorten()", x.shorten(), 2);
-        dueReferences(x, 6, 4);
-        dueReferences(x, 7, 0, 1, 0);
-        dueReferences(x, 8, 1);
+        Due.references(x, 6, 4);
+        Due.references(x, 7, 0, 1, 0);
+        Due.references(x, 8, 1);
         Due.is("box(0, 1)", x.box(0, 1), 3);
         Due.is("box(1, 1)", x.box(1, 1), 6);
         Due.is("needs(8)", x.needs(8), 16 | 64 | 256);
@@ -135,9 +128,9 @@ public final class ShorterTest {
         x.repeat(0);
         x.repeat(1);
         Due.is("shorten()", x.shorten(), 1);
-        dueReferences(x, 2, 0);
+        Due.references(x, 2, 0);
         Due.is("undo()", x.undo(), 4);
-        dueReferences(x, 2, 1);
+        Due.references(x, 2, 1);
         Due.is("lines()", x.lines(), 3);
     }
 
@@ -183,9 +176,9 @@ public final class ShorterTest {
             Due.is("rule", x.line(line, 1), due[line][1]);
             Due.is("box", x.line(line, 2), -6);
         }
-        dueReferences(x, 0);
-        dueReferences(x, 2, 1, 0);
-        dueReferences(x, 3, 2);
+        Due.references(x, 0);
+        Due.references(x, 2, 1, 0);
+        Due.references(x, 3, 2);
         Due.is("the next line", x.repeat(3), 4);
     }
 
@@ -210,9 +203,9 @@ public final class ShorterTest {
         Due.is("trim(9)", x.trim(9), 3);
         Due.is("lines()", x.lines(), 7);
         Due.is("boxes()", x.boxes(), 2);
-        dueReferences(x, 6, 0, 0, 1);
-        dueReferences(x, 3, 1);
-        dueReferences(x, 4, 3);
+        Due.references(x, 6, 0, 0, 1);
+        Due.references(x, 3, 1);
+        Due.references(x, 4, 3);
         int[] homes = {-6, -6, 0, 0, 0, 1, -6};
         for (int line = 0; line < 7; line++) {
             Due.is("box of line " + line, x.line(line, 2), homes[line]);
@@ -260,9 +253,9 @@ public final class ShorterTest {
         for (int line = 0; line < 5; line++) {
             Due.is("box of line " + line, x.line(line, 2), homes[line]);
         }
-        dueReferences(x, 2, 0);
-        dueReferences(x, 3, 1);
-        dueReferences(x, 4, 0);
+        Due.references(x, 2, 0);
+        Due.references(x, 3, 1);
+        Due.references(x, 4, 0);
         Due.is("line(4, 4)", x.line(4, 4), 1);
         Due.is("line(3, 4)", x.line(3, 4), 0);
         Due.is("line(2, 3)", x.line(2, 3), 2);
@@ -278,7 +271,7 @@ public final class ShorterTest {
         Due.is("trim(2)", x.trim(2), 1);
         Due.is("box(0, 0)", x.box(0, 0), 0);
         Due.is("box(0, 1)", x.box(0, 1), 0);
-        dueReferences(x, 1, 0);
+        Due.references(x, 1, 0);
         Due.is("needs(1)", x.needs(1), 3);
     }
 
@@ -298,10 +291,10 @@ public final class ShorterTest {
         x.fromBox(8, 1);
         x.fromTwo(3, 5, 6);
         Due.is("trim(7)", x.trim(7), 2);
-        dueReferences(x, 2, 0);
-        dueReferences(x, 3, 0);
-        dueReferences(x, 4, 0);
-        dueReferences(x, 5, 3, 4);
+        Due.references(x, 2, 0);
+        Due.references(x, 3, 0);
+        Due.references(x, 4, 0);
+        Due.references(x, 5, 3, 4);
         Due.is("boxes()", x.boxes(), 1);
         Due.is("box(0, 0)", x.box(0, 0), 1);
         Due.is("box(0, 1)", x.box(0, 1), 2);
@@ -334,7 +327,7 @@ public final class ShorterTest {
         Due.is("box(0, 0)", x.box(0, 0), 1);
         Due.is("box(0, 1)", x.box(0, 1), 2);
         Due.is("line(2, 2)", x.line(2, 2), 0);
-        dueReferences(x, 2, 1);
+        Due.references(x, 2, 1);
         Due.is("trim(3) that drops nothing is undoable", x.trim(x.lines() - 1), 3);
         x.trim(0);
         Due.is("undo()", x.undo(), 4);
@@ -358,8 +351,8 @@ public final class ShorterTest {
         Due.is("shorten()", x.shorten(), 2);
         Due.is("trim(6)", x.trim(6), 3);
         Due.is("lines()", x.lines(), 4);
-        dueReferences(x, 2, 1, 0);
-        dueReferences(x, 3, 0);
+        Due.references(x, 2, 1, 0);
+        Due.references(x, 3, 0);
         Due.is("box(0, 1)", x.box(0, 1), 2);
         for (int line = 0; line < 4; line++) {
             Due.is("failure(" + line + ")", x.failure(line), -6);

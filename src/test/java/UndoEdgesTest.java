@@ -12,10 +12,14 @@ public final class UndoEdgesTest {
         fiveStatesAreKept();
         sixthStateDiscardsTheOldest();
         stateIsEverythingElse();
+        referencesAreInTheState();
+        parentsAreInTheState();
         bufferIsNotInTheState();
         savedStateIsNotInTheState();
         recordedStatesAreNotInTheState();
         undoMakesTheLatestCurrent();
+        undoneFormulasAreGone();
+        undoneLinesAndBoxesAreGone();
         undoReturnsWhatRemains();
         undoOfNothing();
         undoIsNotRecorded();
@@ -157,6 +161,55 @@ public final class UndoEdgesTest {
         }), Ready::boxes);
     }
 
+    /** Boxes with the numbers 0 to 3, and a line by CASES from two of them. */
+    private static BoxedProofs withCases(int left, int right) {
+        BoxedProofs x = new BoxedProofs();
+        x.atom(0);
+        x.premise(x.pair(4, 0, 0));
+        for (int box = 0; box < 4; box++) {
+            x.open(0);
+            x.close();
+        }
+        x.save();
+        Due.is("cases(0, " + left + ", " + right + ")", x.cases(0, left, right), 5);
+        return x;
+    }
+
+    // Terms: "The state is everything except the buffer, the saved state of save() and the recorded
+    // states."
+    private static void referencesAreInTheState() {
+        Look.sameButRecorded("another line in its place", after(() -> withCases(1, 2), x -> {
+            x.save();
+            x.undo();
+            x.cases(0, 3, 0);
+            x.restore();
+        }), after(() -> withCases(1, 2), x -> x.save()));
+        Look.sameButRecorded("a trim undone", after(() -> withCases(1, 3), x -> {
+            x.trim(5);
+            x.undo();
+        }), () -> withCases(1, 3));
+    }
+
+    /** Box 1 lies in box 0. */
+    private static BoxedProofs boxInABox() {
+        BoxedProofs x = Ready.inBoxes(2, 2);
+        x.save();
+        return x;
+    }
+
+    // Terms: "The state is everything except the buffer, the saved state of save() and the recorded
+    // states."
+    private static void parentsAreInTheState() {
+        Look.sameButRecorded("a box with another parent in its place", after(
+                UndoEdgesTest::boxInABox, x -> {
+                    x.undo();
+                    x.close();
+                    x.open(0);
+                    Due.is("box(1, 2)", x.box(1, 2), -6);
+                    x.restore();
+                }), UndoEdgesTest::boxInABox);
+    }
+
     // Terms: "The state is everything except the buffer,"
     private static void bufferIsNotInTheState() {
         BoxedProofs x = new BoxedProofs();
@@ -219,6 +272,60 @@ public final class UndoEdgesTest {
         Due.is("undo() of a later state", y.undo(), 3);
         Due.is("undo() of a former state", y.undo(), 2);
         Due.is("lines()", y.lines(), 1);
+    }
+
+    /** What made the formula 7, the lines 11 and 12 and the box 2 is undone. */
+    private static BoxedProofs undone() {
+        BoxedProofs x = Ready.rules();
+        x.atom(2);
+        x.length(7);
+        x.isTrue(7, 255);
+        x.premise(7);
+        x.open(7);
+        x.close();
+        for (int i = 0; i < 4; i++) {
+            x.undo();
+        }
+        return x;
+    }
+
+    // Promise 37: "Makes the latest recorded state current"
+    private static void undoneFormulasAreGone() {
+        Edge.refused("part(7, 0)", -1, UndoEdgesTest::undone, x -> x.part(7, 0));
+        Edge.refused("length(7)", -1, UndoEdgesTest::undone, x -> x.length(7));
+        Edge.refused("character(7, 0)", -1, UndoEdgesTest::undone, x -> x.character(7, 0));
+        Edge.refused("isTrue(7, 0)", -1, UndoEdgesTest::undone, x -> x.isTrue(7, 0));
+        Edge.refused("not(7)", -1, UndoEdgesTest::undone, x -> x.not(7));
+        Edge.refused("pair(3, 7, 0)", -1, UndoEdgesTest::undone, x -> x.pair(3, 7, 0));
+        Edge.refused("premise(7)", -1, UndoEdgesTest::undone, x -> x.premise(7));
+        Edge.refused("open(7)", -1, UndoEdgesTest::undone, x -> x.open(7));
+        Edge.refused("toFormula(12, 1, 7)", -1, UndoEdgesTest::undone,
+                x -> x.toFormula(12, 1, 7));
+        Edge.refused("counterexample(7)", -1, UndoEdgesTest::undone, x -> x.counterexample(7));
+        Edge.undoable("another atom in its place", 7, UndoEdgesTest::undone, x -> x.atom(3));
+    }
+
+    // Promise 37: "Makes the latest recorded state current"
+    private static void undoneLinesAndBoxesAreGone() {
+        for (int line = 11; line <= 12; line++) {
+            int of = line;
+            Edge.refused("repeat of it", -1, UndoEdgesTest::undone, x -> x.repeat(of));
+            Edge.refused("JOIN of it", -1, UndoEdgesTest::undone, x -> x.fromTwo(3, 0, of));
+            Edge.refused("LEFT of it", -1, UndoEdgesTest::undone, x -> x.fromOne(4, of));
+            Edge.refused("WEAKEN of it", -1, UndoEdgesTest::undone, x -> x.toFormula(6, of, 3));
+            Edge.refused("CASES of it", -1, UndoEdgesTest::undone, x -> x.cases(of, 1, 1));
+            Edge.refused("line of it", -1, UndoEdgesTest::undone, x -> x.line(of, 0));
+            Edge.refused("reference of it", -1, UndoEdgesTest::undone, x -> x.reference(of, 0));
+            Edge.refused("needs of it", -1, UndoEdgesTest::undone, x -> x.needs(of));
+            Edge.refused("bypass of it", -1, UndoEdgesTest::undone, x -> x.bypass(of));
+            Edge.refused("failure of it", -1, UndoEdgesTest::undone, x -> x.failure(of));
+            Edge.refused("trim of it", -1, UndoEdgesTest::undone, x -> x.trim(of));
+        }
+        Edge.refused("box(2, 0)", -1, UndoEdgesTest::undone, x -> x.box(2, 0));
+        Edge.refused("fromBox(8, 2)", -1, UndoEdgesTest::undone, x -> x.fromBox(8, 2));
+        Edge.refused("cases(3, 2, 1)", -1, UndoEdgesTest::undone, x -> x.cases(3, 2, 1));
+        Edge.refused("cases(3, 1, 2)", -1, UndoEdgesTest::undone, x -> x.cases(3, 1, 2));
+        Edge.asked("users of a line that there is", 0, UndoEdgesTest::undone, x -> x.line(6, 5));
     }
 
     // Promise 37: "Returns the number of recorded states that remain;"

@@ -13,7 +13,6 @@ public final class UndoTest {
         save();
         restore();
         restoreIsUndoable();
-        savedStateOutlivesUndo();
         bufferIsNoState();
         Due.end("UndoTest");
     }
@@ -68,23 +67,8 @@ public final class UndoTest {
 
     /** An object in which every rule applies somewhere, without a state to undo. */
     private static BoxedProofs ready() {
-        BoxedProofs x = new BoxedProofs();
-        x.atom(0);
-        x.falsum();
-        x.pair(3, 0, 0);
-        x.pair(4, 0, 0);
-        x.pair(5, 0, 0);
-        x.not(0);
-        x.not(5);
-        for (int f = 0; f < 7; f++) {
-            x.premise(f);
-        }
-        x.open(0);
-        x.repeat(1);
-        x.close();
-        x.open(0);
-        x.repeat(0);
-        x.close();
+        BoxedProofs x = Ready.rules();
+        x.clearText();
         x.save();
         while (x.undo() >= 0) {
             continue;
@@ -346,23 +330,6 @@ public final class UndoTest {
         }
         Due.is("undo() of restore() that makes no difference", x.undo(), 4);
         Due.is("lines()", x.lines(), 0);
-    }
-
-    private static void savedStateOutlivesUndo() {
-        BoxedProofs x = new BoxedProofs();
-        x.atom(0);
-        x.premise(0);
-        x.save();
-        x.undo();
-        x.undo();
-        Due.is("formulas()", x.formulas(), 0);
-        Due.is("restore()", x.restore(), 1);
-        Due.is("formulas()", x.formulas(), 1);
-        Due.is("undo()", x.undo(), 0);
-        Due.is("lines()", x.lines(), 0);
-        x.atom(7);
-        Due.is("restore() once more", x.restore(), 1);
-        Due.is("part(0, 1)", x.part(0, 1), 0);
     }
 
     private static void bufferIsNoState() {
