@@ -467,6 +467,10 @@ public final class LookingEdgesTest {
         Due.is("detours() with LEFT from JOIN", x.detours(), 3);
         x.fromOne(5, 12);
         Due.is("detours() with RIGHT from JOIN", x.detours(), 4);
+        x.undo();
+        Due.is("detours() after undo", x.detours(), 3);
+        x.trim(12);
+        Due.is("detours() after trim", x.detours(), 0);
     }
 
     // Promise 29: "`line`: number of a line"

@@ -17,6 +17,9 @@ public final class ShorterEdgesTest {
         trimOfALineInABox();
         trimThatDropsNothing();
         trimThatDropsAllOthers();
+        droppedLinesAreGone();
+        droppedPremisesAreGone();
+        trimOfManyBoxes();
         trimBehindTheLine();
         trimNumbersLinesAnew();
         trimDropsBoxes();
@@ -274,6 +277,75 @@ public final class ShorterEdgesTest {
             Due.is("box(0, 0)", x.box(0, 0), -1);
             Due.is("the next line", x.repeat(0), 1);
         }
+    }
+
+    // Promise 32: "Drops all lines that a line does not need,"
+    private static void droppedLinesAreGone() {
+        BoxedProofs x = Ready.inBoxes(0, 1);
+        x.premise(0);
+        x.repeat(1);
+        x.repeat(1);
+        Due.is("trim(3)", x.trim(3), 2);
+        Due.is("lines()", x.lines(), 2);
+        Due.is("detours()", x.detours(), 1);
+        Due.is("shorten()", x.shorten(), 0);
+        Due.is("line(0, 5)", x.line(0, 5), 1);
+        Due.is("line(1, 5)", x.line(1, 5), 0);
+        Due.is("line(2, 0)", x.line(2, 0), -1);
+        Due.is("reference(2, 0)", x.reference(2, 0), -1);
+        Due.is("needs(2)", x.needs(2), -1);
+        Due.is("bypass(2)", x.bypass(2), -1);
+        Due.is("failure(2)", x.failure(2), -1);
+        Due.is("repeat(2)", x.repeat(2), -1);
+    }
+
+    // Promise 32: "Drops all lines that a line does not need,"
+    private static void droppedPremisesAreGone() {
+        BoxedProofs x = new BoxedProofs();
+        for (int atom = 0; atom < 8; atom++) {
+            x.premise(x.atom(atom));
+        }
+        int falsum = x.falsum();
+        Due.is("counterexample with 8 premises", x.counterexample(falsum), 255);
+        for (int line = 7; line >= 0; line--) {
+            x.save();
+            x.trim(line);
+            Due.is("counterexample with one premise", x.counterexample(falsum), 1 << line);
+            x.restore();
+        }
+    }
+
+    // Promise 32: "the last line of a box is the last one of its lines that is left."
+    private static void trimOfManyBoxes() {
+        BoxedProofs x = Ready.inBoxes(0, 1);
+        for (int outer = 0; outer < 4; outer++) {
+            x.open(0);
+            x.repeat(0);
+            x.open(0);
+            x.repeat(0);
+            x.close();
+            x.fromBox(8, 2 * outer + 1);
+            x.close();
+        }
+        for (int outer = 0; outer < 4; outer++) {
+            x.fromBox(8, 2 * outer);
+        }
+        x.fromTwo(3, 22, 24);
+        Due.is("trim(25)", x.trim(25), 14);
+        int[][] due = {{1, 4, -6, 1}, {2, 3, 0, 0}, {5, 8, -6, 1}, {6, 7, 2, 0}};
+        Due.is("boxes()", x.boxes(), 4);
+        for (int box = 0; box < 4; box++) {
+            for (int part = 0; part < 4; part++) {
+                Due.is("box(" + box + ", " + part + ")", x.box(box, part), due[box][part]);
+            }
+        }
+        int[] homes = {-6, 0, 1, 1, 0, 2, 3, 3, 2, -6, -6, -6};
+        for (int line = 0; line < homes.length; line++) {
+            Due.is("line(" + line + ", 2)", x.line(line, 2), homes[line]);
+        }
+        Due.references(x, 9, 0);
+        Due.references(x, 10, 2);
+        Due.references(x, 11, 9, 10);
     }
 
     // Promise 32: "Drops all lines that a line does not need,"
