@@ -3,10 +3,14 @@ import java.lang.reflect.Field;
 import java.lang.reflect.Member;
 import java.lang.reflect.Method;
 import java.lang.reflect.Modifier;
+import java.nio.file.Files;
+import java.nio.file.Path;
 import java.util.ArrayList;
 import java.util.Arrays;
 import java.util.Collections;
 import java.util.List;
+import java.util.regex.Matcher;
+import java.util.regex.Pattern;
 
 /** The public face: the constants, the constructor and the methods, and nothing else. */
 public final class FaceTest {
@@ -42,6 +46,7 @@ public final class FaceTest {
             staticFieldsAreFinal(inside);
         }
         staticFieldsAreFinal(face);
+        document();
         Due.end("FaceTest");
     }
 
@@ -90,6 +95,30 @@ public final class FaceTest {
             }
         }
         Due.isTrue("methods " + shown, sorted(shown).equals(sorted(Arrays.asList(METHODS))));
+    }
+
+    /** The face as "The public face" of the document has it, where the document is at hand. */
+    private static void document() throws Exception {
+        Path document = Path.of("../shared/DOC.md");
+        if (!Files.exists(document)) {
+            return;
+        }
+        List<String> methods = new ArrayList<>();
+        List<String> constants = new ArrayList<>();
+        Matcher member = Pattern.compile("(?m)^    public (static final int )?([^;]+);$")
+                .matcher(Files.readString(document));
+        while (member.find()) {
+            if (member.group(1) != null) {
+                constants.add(member.group(2).replaceAll(" = .*", ""));
+            } else if (!member.group(2).equals("BoxedProofs()")) {
+                methods.add(member.group(2).replaceAll("(int|long) \\w+(?=[,)])", "$1")
+                        .replace(", ", ","));
+            }
+        }
+        Due.isTrue("methods of the document " + methods,
+                sorted(methods).equals(sorted(Arrays.asList(METHODS))));
+        Due.isTrue("constants of the document " + constants,
+                sorted(constants).equals(sorted(Arrays.asList(CONSTANTS))));
     }
 
     private static void staticFieldsAreFinal(Class<?> type) {
